@@ -48,6 +48,22 @@ public final class TextTest {
         syntax("give handshands;", 5);
         syntax("give hand;", 5);
         syntax("give handss;", 5);
+        for (String word : new String[] {"give", "bar", "pay"}) {
+            syntax("x" + word.substring(1) + " 1 == 1;", 0);
+            syntax(word + "z 1 == 1;", 0);
+            syntax("a" + word + " 1 == 1;", 0);
+            syntax(word.substring(1) + " 1 == 1;", 0);
+        }
+        for (String word : new String[] {"hands", "widow", "load", "money", "kind", "worth", "slices", "season"}) {
+            good("give " + word + ";");
+            syntax("give x" + word.substring(1) + ";", 5);
+            syntax("give " + word + "z;", 5);
+            syntax("give " + word.substring(0, word.length() - 1) + ";", 5);
+        }
+        for (String word : new String[] {"if", "and", "or"}) {
+            syntax("give 1 if 1 == 1 x" + word.substring(1) + " 1 == 1;", 17);
+            syntax("give 1 x" + word.substring(1) + " 1 == 1;", 7);
+        }
         syntax("Give 1;", 0);
         syntax("give HANDS;", 5);
         syntax("give 1\u000b;", 6);
