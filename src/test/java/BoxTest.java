@@ -18,8 +18,8 @@ public final class BoxTest {
     }
 
     /** Two kinds, two families: so many figures of kind 0 by family 0, then of kind 1 by family 1. */
-    private static ToyVillage village(int ofKind0, int ofKind1) {
-        ToyVillage v = new ToyVillage();
+    private static Village village(int ofKind0, int ofKind1) {
+        Village v = new Village();
         v.kind(1, 1, 3);
         v.kind(1, 1, 4);
         v.family(2, false);
@@ -37,20 +37,20 @@ public final class BoxTest {
     }
 
     /** Orders of {worth, many}, each for any figures of kind 0. */
-    private static void orders(ToyVillage v, int[]... worthAndMany) {
+    private static void orders(Village v, int[]... worthAndMany) {
         for (int[] o : worthAndMany) {
             int order = v.order(o[0]);
             v.need(order, o[1], 0, -1);
         }
     }
 
-    private static void boxed(ToyVillage v, int... states) {
+    private static void boxed(Village v, int... states) {
         for (int o = 0; o < states.length; o++) {
             c.due("told(" + o + ", 0)", v.told(o, 0), states[o]);
         }
     }
 
-    private static void packed(ToyVillage v, int order, int... figures) {
+    private static void packed(Village v, int order, int... figures) {
         for (int i = 0; i < figures.length; i++) {
             c.due("packed(" + order + ", " + i + ")", v.packed(order, i), figures[i]);
             c.due("figure(" + figures[i] + ", 5)", v.figure(figures[i], 5), order);
@@ -60,7 +60,7 @@ public final class BoxTest {
     }
 
     private static void mostWorth() {
-        ToyVillage v = village(5, 0);
+        Village v = village(5, 0);
         orders(v, new int[] {9, 4}, new int[] {5, 3}, new int[] {5, 2}, new int[] {100, 6});
         c.due("box()", v.box(), 10);
         boxed(v, 0, 1, 1, 0);
@@ -75,7 +75,7 @@ public final class BoxTest {
     }
 
     private static void mostOrders() {
-        ToyVillage v = village(4, 0);
+        Village v = village(4, 0);
         orders(v, new int[] {10, 4}, new int[] {5, 1}, new int[] {5, 2}, new int[] {0, 1});
         c.due("box()", v.box(), 10);
         boxed(v, 0, 1, 1, 1);
@@ -91,7 +91,7 @@ public final class BoxTest {
     }
 
     private static void firstByWhoIsIn() {
-        ToyVillage v = village(2, 0);
+        Village v = village(2, 0);
         orders(v, new int[] {3, 3}, new int[] {5, 1}, new int[] {5, 1}, new int[] {5, 1});
         c.due("box()", v.box(), 10);
         boxed(v, 0, 1, 1, 0);
@@ -108,7 +108,7 @@ public final class BoxTest {
     }
 
     private static void wholeOrders() {
-        ToyVillage v = village(3, 3);
+        Village v = village(3, 3);
         v.lot(1);
         v.paint(0, 0, 1);
         int a = v.order(10);
@@ -146,7 +146,7 @@ public final class BoxTest {
     }
 
     private static void coloursFirst() {
-        ToyVillage v = village(3, 0);
+        Village v = village(3, 0);
         v.lot(4);
         v.paint(0, 0, 1);
         int a = v.order(1);
@@ -170,7 +170,7 @@ public final class BoxTest {
     }
 
     private static void leastNumbers() {
-        ToyVillage v = village(6, 0);
+        Village v = village(6, 0);
         v.lot(0);
         v.lot(1);
         v.lot(0);
@@ -190,7 +190,7 @@ public final class BoxTest {
     }
 
     private static void pay() {
-        ToyVillage v = village(2, 2);
+        Village v = village(2, 2);
         Check.read(v, "give 50; pay 100 if widow == 1 and season == 2; bar 1 == 1; pay worth * hands if kind == 0; pay 7;");
         int a = v.order(1);
         v.need(a, 1, 0, -1);
@@ -231,7 +231,7 @@ public final class BoxTest {
     }
 
     private static void payAtOnce() {
-        ToyVillage v = village(4, 0);
+        Village v = village(4, 0);
         v.lot(0);
         v.paint(0, 2, 3);
         Check.read(v, "pay money * 2 + 1;");
@@ -251,7 +251,7 @@ public final class BoxTest {
     }
 
     private static void payWraps() {
-        ToyVillage v = village(3, 0);
+        Village v = village(3, 0);
         Check.read(v, "pay 4096 * 4096 * 127;");
         orders(v, new int[] {1, 3});
         v.box();
@@ -267,7 +267,7 @@ public final class BoxTest {
     }
 
     private static void refusing() {
-        ToyVillage v = village(3, 1);
+        Village v = village(3, 1);
         Check.read(v, "pay 10 + money;");
         int a = v.order(5);
         v.need(a, 1, 0, -1);
@@ -302,7 +302,7 @@ public final class BoxTest {
     }
 
     private static void finding() {
-        ToyVillage v = village(6, 0);
+        Village v = village(6, 0);
         v.lot(0);
         v.lot(0);
         v.lot(1);

@@ -2,7 +2,7 @@
 public final class CountTest {
     public static void main(String[] args) {
         Check c = new Check("CountTest");
-        ToyVillage v = new ToyVillage();
+        Village v = new Village();
         v.kind(1, 2, 5);
         v.kind(9, 1, 5);
         v.kind(9, 1, 5);

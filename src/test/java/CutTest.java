@@ -22,8 +22,8 @@ public final class CutTest {
     }
 
     /** One family that owns kinds of {width, slices, worth}. */
-    private static ToyVillage village(int[]... kinds) {
-        ToyVillage v = new ToyVillage();
+    private static Village village(int[]... kinds) {
+        Village v = new Village();
         v.family(1, false);
         for (int k = 0; k < kinds.length; k++) {
             v.kind(kinds[k][0], kinds[k][1], kinds[k][2]);
@@ -33,7 +33,7 @@ public final class CutTest {
     }
 
     /** Looks at the rings from a number on: pairs of first unit and kind. */
-    private static void rings(ToyVillage v, int from, int log, int... unitsAndKinds) {
+    private static void rings(Village v, int from, int log, int... unitsAndKinds) {
         int many = unitsAndKinds.length / 2;
         c.due("count(3)", v.count(3), from + many);
         for (int i = 0; i < many; i++) {
@@ -51,7 +51,7 @@ public final class CutTest {
     }
 
     private static void wrongLogs() {
-        ToyVillage v = village(new int[] {1, 1, 1});
+        Village v = village(new int[] {1, 1, 1});
         int[] lengths = {0, -1, 61, Integer.MIN_VALUE, Integer.MAX_VALUE, 64, 65};
         for (int length : lengths) {
             c.due("log(" + length + ", 0)", v.log(length, 0), -1);
@@ -73,7 +73,7 @@ public final class CutTest {
     }
 
     private static void noFamilyMay() {
-        ToyVillage v = new ToyVillage();
+        Village v = new Village();
         v.kind(1, 1, 1);
         v.family(1, false);
         c.due("log(4, 0)", v.log(4, 0), 0);
@@ -82,7 +82,7 @@ public final class CutTest {
     }
 
     private static void lentPatternsOnly() {
-        ToyVillage v = new ToyVillage();
+        Village v = new Village();
         v.kind(2, 1, 5);
         v.kind(1, 1, 1);
         v.family(1, false);
@@ -98,7 +98,7 @@ public final class CutTest {
 
     private static void mostWorth() {
         // 7 units: 3 + 2 + 2 with 10 + 7 + 7 is more than 3 + 3 or 2 + 2 + 2.
-        ToyVillage v = village(new int[] {3, 2, 5}, new int[] {2, 1, 7});
+        Village v = village(new int[] {3, 2, 5}, new int[] {2, 1, 7});
         v.log(7, 0);
         rings(v, 0, 0, 0, 0, 3, 1, 5, 1);
         c.due("waste(0)", v.waste(0), 0);
@@ -113,7 +113,7 @@ public final class CutTest {
     }
 
     private static void fewestRings() {
-        ToyVillage v = village(new int[] {1, 1, 2}, new int[] {2, 1, 4}, new int[] {4, 1, 8});
+        Village v = village(new int[] {1, 1, 2}, new int[] {2, 1, 4}, new int[] {4, 1, 8});
         v.log(7, 0);
         rings(v, 0, 0, 0, 0, 1, 1, 3, 2);
         // What has no worth is not cut.
@@ -125,7 +125,7 @@ public final class CutTest {
 
     private static void firstParting() {
         // A ring ahead of a unit left out.
-        ToyVillage v = village(new int[] {3, 1, 5});
+        Village v = village(new int[] {3, 1, 5});
         v.log(5, 0);
         rings(v, 0, 0, 0, 0);
         c.due("waste(0)", v.waste(0), 2);
@@ -151,7 +151,7 @@ public final class CutTest {
     }
 
     private static void flaws() {
-        ToyVillage v = village(new int[] {3, 1, 5}, new int[] {2, 1, 2});
+        Village v = village(new int[] {3, 1, 5}, new int[] {2, 1, 2});
         v.log(7, 0b0000100);
         rings(v, 0, 0, 0, 1, 3, 0);
         c.due("waste(0)", v.waste(0), 2);
@@ -166,7 +166,7 @@ public final class CutTest {
     }
 
     private static void fullLength() {
-        ToyVillage v = village(new int[] {9, 1, 9}, new int[] {1, 12, 100});
+        Village v = village(new int[] {9, 1, 9}, new int[] {1, 12, 100});
         c.due("log(60, 0)", v.log(60, 0), 0);
         c.due("count(3)", v.count(3), 60);
         c.due("ring(59, 1)", v.ring(59, 1), 59);
@@ -179,7 +179,7 @@ public final class CutTest {
     }
 
     private static void thirtyLogs() {
-        ToyVillage v = village();
+        Village v = village();
         for (int i = 0; i < 30; i++) {
             c.due("log " + i, v.log(i + 1, 0), i);
         }
@@ -190,7 +190,7 @@ public final class CutTest {
     }
 
     private static void roomForRings() {
-        ToyVillage v = village(new int[] {1, 1, 1});
+        Village v = village(new int[] {1, 1, 1});
         for (int i = 0; i < 3; i++) {
             v.log(60, 0);
         }
@@ -219,7 +219,7 @@ public final class CutTest {
             int length = 1 + random.nextInt(9);
             long flaws = random.nextInt(1 << length) & random.nextInt(1 << length);
             List<Integer> best = new Ways(kinds, length, flaws).best;
-            ToyVillage v = village(kinds);
+            Village v = village(kinds);
             v.log(length, flaws);
             int ring = 0;
             int unit = 0;

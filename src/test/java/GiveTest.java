@@ -17,8 +17,8 @@ public final class GiveTest {
     }
 
     /** Kinds of {width, slices, worth}, families of {hands, widow}; each family owns each kind. */
-    private static ToyVillage village(int[][] kinds, int[][] families) {
-        ToyVillage v = new ToyVillage();
+    private static Village village(int[][] kinds, int[][] families) {
+        Village v = new Village();
         for (int[] k : kinds) {
             v.kind(k[0], k[1], k[2]);
         }
@@ -32,7 +32,7 @@ public final class GiveTest {
     }
 
     /** Cuts one more ring and looks at who gets it under the text. */
-    private static void taker(ToyVillage v, String text, int want) {
+    private static void taker(Village v, String text, int want) {
         c.due("read() of " + text, Check.read(v, text), 0);
         int ring = v.count(3);
         v.log(1, 0);
@@ -41,7 +41,7 @@ public final class GiveTest {
     }
 
     private static void whoMayNow() {
-        ToyVillage v = new ToyVillage();
+        Village v = new Village();
         v.kind(1, 2, 1);
         v.family(1, false);
         v.family(1, false);
@@ -69,7 +69,7 @@ public final class GiveTest {
         c.due("load(3, 0)", v.load(3, 0), -1);
         c.due("load(-1, 0)", v.load(-1, 0), -1);
         // A ring that waits because nobody may carve it any more.
-        ToyVillage w = new ToyVillage();
+        Village w = new Village();
         w.kind(1, 1, 1);
         w.family(1, false);
         w.family(1, false);
@@ -85,7 +85,7 @@ public final class GiveTest {
     }
 
     private static void greatestClaim() {
-        ToyVillage v = village(new int[][] {{1, 1, 1}}, new int[][] {{2, 0}, {5, 0}, {5, 1}, {1, 1}});
+        Village v = village(new int[][] {{1, 1, 1}}, new int[][] {{2, 0}, {5, 0}, {5, 1}, {1, 1}});
         taker(v, "", 0);
         taker(v, "pay hands;", 0);
         taker(v, "give hands;", 1);
@@ -99,12 +99,12 @@ public final class GiveTest {
     }
 
     private static void bars() {
-        ToyVillage v = village(new int[][] {{1, 1, 1}}, new int[][] {{2, 0}, {5, 0}, {5, 1}, {1, 1}});
+        Village v = village(new int[][] {{1, 1, 1}}, new int[][] {{2, 0}, {5, 0}, {5, 1}, {1, 1}});
         taker(v, "give hands; bar hands == 5;", 0);
         taker(v, "bar hands == 5; give hands; bar widow == 0;", 3);
         taker(v, "bar widow == 0; bar hands == 1; give 1;", 2);
         taker(v, "bar widow == 0; bar widow == 1; give hands;", -1);
-        ToyVillage w = village(new int[][] {{1, 1, 1}, {2, 1, 5}}, new int[][] {{2, 0}, {5, 0}});
+        Village w = village(new int[][] {{1, 1, 1}, {2, 1, 5}}, new int[][] {{2, 0}, {5, 0}});
         Check.read(w, "bar kind == 1 and hands == 2; bar kind == 0 and hands == 5;");
         w.log(2, 0);
         w.log(1, 0);
@@ -123,7 +123,7 @@ public final class GiveTest {
     }
 
     private static void firstRuleThatHolds() {
-        ToyVillage v = village(new int[][] {{1, 1, 1}}, new int[][] {{2, 0}, {5, 0}, {3, 1}});
+        Village v = village(new int[][] {{1, 1, 1}}, new int[][] {{2, 0}, {5, 0}, {3, 1}});
         taker(v, "give 1 if widow == 1; give 9;", 0);
         taker(v, "give 9 if hands == 3; give 99 if widow == 1; give 10 if hands == 5; give 1;", 1);
         taker(v, "give 1; give hands;", 0);
@@ -133,7 +133,7 @@ public final class GiveTest {
     }
 
     private static void loadGrows() {
-        ToyVillage v = village(new int[][] {{1, 3, 1}}, new int[][] {{2, 0}, {5, 0}});
+        Village v = village(new int[][] {{1, 3, 1}}, new int[][] {{2, 0}, {5, 0}});
         Check.read(v, "give 0 - load;");
         v.log(5, 0);
         c.due("give()", v.give(), 5);
@@ -156,7 +156,7 @@ public final class GiveTest {
     }
 
     private static void variables() {
-        ToyVillage v = village(new int[][] {{9, 1, 1}, {1, 4, 77}}, new int[][] {{2, 0}, {5, 1}});
+        Village v = village(new int[][] {{9, 1, 1}, {1, 4, 77}}, new int[][] {{2, 0}, {5, 1}});
         v.season();
         v.season();
         v.season();
@@ -171,15 +171,15 @@ public final class GiveTest {
     }
 
     /** Whether a bar rule with the condition bars all families. */
-    private static void holds(ToyVillage v, String condition) {
+    private static void holds(Village v, String condition) {
         bars(v, condition, true);
     }
 
-    private static void fails(ToyVillage v, String condition) {
+    private static void fails(Village v, String condition) {
         bars(v, condition, false);
     }
 
-    private static void bars(ToyVillage v, String condition, boolean want) {
+    private static void bars(Village v, String condition, boolean want) {
         int rings = v.count(4);
         if (rings == 0) {
             v.season();
@@ -191,7 +191,7 @@ public final class GiveTest {
     }
 
     private static void arithmetic() {
-        ToyVillage v = village(new int[][] {{1, 1, 1}}, new int[][] {{2, 0}});
+        Village v = village(new int[][] {{1, 1, 1}}, new int[][] {{2, 0}});
         holds(v, "1 + 2 * 3 == 7");
         holds(v, "(1 + 2) * 3 == 9");
         holds(v, "2 * 3 + 4 * 5 == 26");
@@ -214,7 +214,7 @@ public final class GiveTest {
     }
 
     private static void conditions() {
-        ToyVillage v = village(new int[][] {{1, 1, 1}}, new int[][] {{2, 0}});
+        Village v = village(new int[][] {{1, 1, 1}}, new int[][] {{2, 0}});
         holds(v, "1 == 1");
         holds(v, "1 != 2");
         holds(v, "1 < 2");
@@ -241,7 +241,7 @@ public final class GiveTest {
 
     private static void roomForFigures() {
         // 33 rings of 12 are 396 figures: there is room for one of 3, and then for one of 1.
-        ToyVillage v = new ToyVillage();
+        Village v = new Village();
         v.kind(1, 12, 1);
         v.kind(2, 3, 20);
         v.kind(3, 1, 100);
@@ -273,7 +273,7 @@ public final class GiveTest {
     }
 
     private static void figuresOfRings() {
-        ToyVillage v = village(new int[][] {{2, 2, 5}, {1, 3, 1}}, new int[][] {{2, 0}, {3, 0}});
+        Village v = village(new int[][] {{2, 2, 5}, {1, 3, 1}}, new int[][] {{2, 0}, {3, 0}});
         Check.read(v, "bar kind == 0 and hands == 2;");
         v.log(2, 1);
         v.season();

@@ -1,11 +1,15 @@
 import java.util.ArrayList;
 import java.util.List;
 import java.util.Random;
+import java.util.function.ToIntFunction;
 
 /** All promises: runs of calls by chance, always the same ones, against the Model. */
 public final class ModelTest {
     private static final int RUNS = 1500;
-    private static final int CALLS = 512;
+    /** More than the calls of one step, a text of 600 bytes. */
+    private static final int STEP_CALLS = 40;
+    /** Only one run in so many is looked at as a whole at last, for that takes long. */
+    private static final int LOOKED_AT = 7;
     private static final int[] EDGES = {-2, -1, 0, 1, 2, 3, 4, 5, 8, 9, 10, 12, 13, 20, 21, 39, 40, 41, 60, 61,
         100, 101, 199, 200, 399, 400, 1000, 1001, 2000, Integer.MAX_VALUE, Integer.MIN_VALUE};
 
@@ -16,8 +20,10 @@ public final class ModelTest {
     /** Some runs have few kinds of calls go astray, some have many. */
     private final int astray;
     private final boolean smallWorths;
-    private final ToyVillage v = new ToyVillage();
+    private Village v = new Village();
     private final Model m = new Model();
+    /** The calls that may have changed something. */
+    private final List<ToIntFunction<Village>> acts = new ArrayList<>();
     private int calls = 0;
 
     private ModelTest(int run) {
@@ -41,10 +47,31 @@ public final class ModelTest {
             family();
             own();
         }
-        while (calls < CALLS) {
+        while (v.left() > STEP_CALLS) {
             step();
         }
-        lookAtAll();
+        while (v.left() > 0) {
+            look();
+        }
+        if (run % LOOKED_AT == 0) {
+            lookAtAll();
+        }
+    }
+
+    private void act(String call, ToIntFunction<Village> act, int want) {
+        acts.add(act);
+        due(call, act.applyAsInt(v), want);
+    }
+
+    /** The village; if all its calls are made, another one by the same acts. */
+    private Village again() {
+        if (v.left() == 0) {
+            v = new Village();
+            for (ToIntFunction<Village> act : acts) {
+                act.applyAsInt(v);
+            }
+        }
+        return v;
     }
 
     private void due(String call, int got, int want) {
@@ -70,12 +97,12 @@ public final class ModelTest {
             case 6 -> may();
             case 7 -> season();
             case 8, 9, 10 -> log();
-            case 11, 12, 13 -> due("give()", v.give(), m.give());
+            case 11, 12, 13 -> act("give()", x -> x.give(), m.give());
             case 14 -> lot();
             case 15, 16, 17 -> paint();
             case 18 -> order();
             case 19, 20, 21 -> need();
-            case 22 -> due("box()", v.box(), m.box());
+            case 22 -> act("box()", x -> x.box(), m.box());
             case 23 -> refuse();
             case 24, 25 -> text();
             case 26 -> tape();
@@ -85,7 +112,7 @@ public final class ModelTest {
 
     private void season() {
         if (random.nextInt(3) == 0 || run % 10 == 0) {
-            due("season", v.season(), m.season());
+            act("season", x -> x.season(), m.season());
         }
     }
 
@@ -93,19 +120,19 @@ public final class ModelTest {
         int width = pick(1, smallWorths ? 4 : 9);
         int slices = pick(1, smallWorths ? 3 : 12);
         int worth = pick(0, smallWorths ? 4 : 100);
-        due("kind", v.kind(width, slices, worth), m.kind(width, slices, worth));
+        act("kind", x -> x.kind(width, slices, worth), m.kind(width, slices, worth));
     }
 
     private void family() {
         int hands = pick(1, 9);
         boolean widow = random.nextBoolean();
-        due("family", v.family(hands, widow), m.family(hands, widow));
+        act("family", x -> x.family(hands, widow), m.family(hands, widow));
     }
 
     private void own() {
         int f = pick(0, m.families.size() - 1);
         int k = pick(0, m.kinds.size() - 1);
-        due("own", v.own(f, k) ? 1 : 0, m.own(f, k) ? 1 : 0);
+        act("own", x -> x.own(f, k) ? 1 : 0, m.own(f, k) ? 1 : 0);
     }
 
     private void lend() {
@@ -113,28 +140,27 @@ public final class ModelTest {
         int to = pick(0, m.families.size() - 1);
         int k = pick(0, m.kinds.size() - 1);
         int until = pick(m.now, Math.min(m.now + 6, 40));
-        due("lend", v.lend(from, to, k, until) ? 1 : 0, m.lend(from, to, k, until) ? 1 : 0);
+        act("lend", x -> x.lend(from, to, k, until) ? 1 : 0, m.lend(from, to, k, until) ? 1 : 0);
     }
 
     private void may() {
         int f = pick(0, m.families.size() - 1);
         int k = pick(0, m.kinds.size() - 1);
         int s = pick(0, 39);
-        due("may", v.may(f, k, s), m.may(f, k, s));
+        due("may", again().may(f, k, s), m.may(f, k, s));
     }
 
     private void log() {
         int length = pick(1, random.nextInt(3) == 0 ? 60 : 15);
-        long flaws = random.nextLong() & random.nextLong() & random.nextLong();
-        if (length >= 1 && length <= 60 && random.nextInt(100) >= astray) {
-            flaws &= (1L << length) - 1;
-        }
-        due("log(" + length + ", " + flaws + ")", v.log(length, flaws), m.log(length, flaws));
+        long bits = random.nextLong() & random.nextLong() & random.nextLong();
+        boolean within = length >= 1 && length <= 60 && random.nextInt(100) >= astray;
+        long flaws = within ? bits & (1L << length) - 1 : bits;
+        act("log(" + length + ", " + flaws + ")", x -> x.log(length, flaws), m.log(length, flaws));
     }
 
     private void lot() {
         int colour = pick(0, 4);
-        due("lot", v.lot(colour), m.lot(colour));
+        act("lot", x -> x.lot(colour), m.lot(colour));
     }
 
     private void paint() {
@@ -142,12 +168,12 @@ public final class ModelTest {
         int a = pick(0, m.figures.size() - 1);
         int b = random.nextInt(100) < astray ? pick(0, m.figures.size() - 1)
                 : Math.min(a + random.nextInt(8), m.figures.size() - 1);
-        due("paint", v.paint(lot, a, b), m.paint(lot, a, b));
+        act("paint", x -> x.paint(lot, a, b), m.paint(lot, a, b));
     }
 
     private void order() {
         int worth = pick(0, smallWorths ? 3 : 1000);
-        due("order", v.order(worth), m.order(worth));
+        act("order", x -> x.order(worth), m.order(worth));
     }
 
     private void need() {
@@ -155,21 +181,21 @@ public final class ModelTest {
         int many = pick(1, random.nextInt(3) == 0 ? 20 : 3);
         int k = pick(0, m.kinds.size() - 1);
         int colour = pick(-1, 4);
-        due("need", v.need(order, many, k, colour), m.need(order, many, k, colour));
+        act("need", x -> x.need(order, many, k, colour), m.need(order, many, k, colour));
     }
 
     private void refuse() {
         int order = pick(0, m.orders.size() - 1);
-        due("refuse", v.refuse(order), m.refuse(order));
+        act("refuse", x -> x.refuse(order), m.refuse(order));
     }
 
     private void tape() {
         if (random.nextInt(4) > 0) {
             int n = pick(0, 12);
-            due("back", v.back(n), m.back(n));
+            act("back", x -> x.back(n), m.back(n));
         } else {
-            due("read", v.read(), m.read());
-            due("place", v.place(), m.place);
+            act("read", x -> x.read(), m.read());
+            due("place", again().place(), m.place);
         }
     }
 
@@ -182,13 +208,13 @@ public final class ModelTest {
             for (int i = 0; i < 5; i++) {
                 w[i] = Check.word(padded, at + 4 * i);
             }
-            due("feed", v.feed(w[0], w[1], w[2], w[3], w[4]), m.feed(w));
+            act("feed", x -> x.feed(w[0], w[1], w[2], w[3], w[4]), m.feed(w));
         }
         int filled = padded.length - bytes.length;
-        due("back", v.back(filled), m.back(filled));
+        act("back", x -> x.back(filled), m.back(filled));
         if (random.nextInt(12) > 0) {
-            due("read of [" + m.tape + "]", v.read(), m.read());
-            due("place of [" + text + "]", v.place(), m.place);
+            act("read of [" + m.tape + "]", x -> x.read(), m.read());
+            due("place of [" + text + "]", again().place(), m.place);
         }
     }
 
@@ -199,65 +225,65 @@ public final class ModelTest {
         int fam = pick(0, m.families.size() - 1);
         int what = pick(0, 11);
         switch (random.nextInt(11)) {
-            case 0 -> due("ring", v.ring(r, what), m.ring(r, what));
-            case 1 -> due("figure", v.figure(f, what), m.figure(f, what));
-            case 2 -> due("packed", v.packed(o, what), m.packed(o, what));
-            case 3 -> due("told", v.told(o, what), m.told(o, what));
+            case 0 -> due("ring", again().ring(r, what), m.ring(r, what));
+            case 1 -> due("figure", again().figure(f, what), m.figure(f, what));
+            case 2 -> due("packed", again().packed(o, what), m.packed(o, what));
+            case 3 -> due("told", again().told(o, what), m.told(o, what));
             case 4 -> {
                 int lot = pick(0, m.lots.size() - 1);
                 int i = pick(0, 3);
-                due("found", v.found(lot, i), m.found(lot, i));
+                due("found", again().found(lot, i), m.found(lot, i));
             }
             case 5 -> {
                 int k = pick(0, m.kinds.size() - 1);
                 int colour = pick(-1, 4);
-                due("rest", v.rest(k, colour), m.rest(k, colour));
+                due("rest", again().rest(k, colour), m.rest(k, colour));
             }
-            case 6 -> due("money", v.money(fam), m.money(fam));
+            case 6 -> due("money", again().money(fam), m.money(fam));
             case 7 -> {
                 int s = pick(0, m.now);
-                due("load", v.load(fam, s), m.load(fam, s));
+                due("load", again().load(fam, s), m.load(fam, s));
             }
             case 8 -> {
                 int log = pick(0, m.wastes.size() - 1);
-                due("waste", v.waste(log), m.waste(log));
+                due("waste", again().waste(log), m.waste(log));
             }
-            case 9 -> due("place", v.place(), m.place);
-            default -> due("count", v.count(what), m.count(what));
+            case 9 -> due("place", again().place(), m.place);
+            default -> due("count", again().count(what), m.count(what));
         }
     }
 
-    /** Beyond the 512 calls, but what these answer does not change, and all of it should be the same. */
+    /** What all looks answer, which may be far more than the calls of one object. */
     private void lookAtAll() {
         for (int what = 0; what < 12; what++) {
-            due("count(" + what + ") at last", v.count(what), m.count(what));
+            due("count(" + what + ") at last", again().count(what), m.count(what));
             for (int r = 0; r < m.rings.size(); r++) {
-                due("ring at last", v.ring(r, what), m.ring(r, what));
+                due("ring at last", again().ring(r, what), m.ring(r, what));
             }
             for (int f = 0; f < m.figures.size(); f++) {
-                due("figure at last", v.figure(f, what), m.figure(f, what));
+                due("figure at last", again().figure(f, what), m.figure(f, what));
             }
             for (int o = 0; o < m.orders.size(); o++) {
-                due("told at last", v.told(o, what), m.told(o, what));
-                due("packed at last", v.packed(o, what), m.packed(o, what));
+                due("told at last", again().told(o, what), m.told(o, what));
+                due("packed at last", again().packed(o, what), m.packed(o, what));
             }
         }
         for (int f = 0; f < m.families.size(); f++) {
-            due("money at last", v.money(f), m.money(f));
+            due("money at last", again().money(f), m.money(f));
             for (int s = 0; s < 40; s++) {
-                due("load at last", v.load(f, s), m.load(f, s));
+                due("load at last", again().load(f, s), m.load(f, s));
                 for (int k = 0; k < m.kinds.size(); k++) {
-                    due("may at last", v.may(f, k, s), m.may(f, k, s));
+                    due("may at last", again().may(f, k, s), m.may(f, k, s));
                 }
             }
         }
         for (int lot = 0; lot < m.lots.size(); lot++) {
             for (int i = 0; i < 8; i++) {
-                due("found at last", v.found(lot, i), m.found(lot, i));
+                due("found at last", again().found(lot, i), m.found(lot, i));
             }
         }
         for (int log = 0; log < m.wastes.size(); log++) {
-            due("waste at last", v.waste(log), m.waste(log));
+            due("waste at last", again().waste(log), m.waste(log));
         }
     }
 

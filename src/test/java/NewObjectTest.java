@@ -2,7 +2,7 @@
 public final class NewObjectTest {
     public static void main(String[] args) {
         Check c = new Check("NewObjectTest");
-        ToyVillage v = new ToyVillage();
+        Village v = new Village();
         for (int what = 0; what <= 11; what++) {
             c.due("count(" + what + ")", v.count(what), 0);
         }
@@ -28,7 +28,7 @@ public final class NewObjectTest {
         c.due("back(1)", v.back(1), -1);
         c.due("read()", v.read(), 0);
 
-        ToyVillage other = new ToyVillage();
+        Village other = new Village();
         v.kind(1, 1, 1);
         v.season();
         c.due("count(0) of another object", other.count(0), 0);

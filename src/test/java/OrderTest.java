@@ -10,7 +10,7 @@ public final class OrderTest {
     }
 
     private static void orders() {
-        ToyVillage v = new ToyVillage();
+        Village v = new Village();
         for (int worth : new int[] {-1, 1001, Integer.MIN_VALUE, Integer.MAX_VALUE}) {
             c.due("order(" + worth + ")", v.order(worth), -1);
         }
@@ -26,7 +26,7 @@ public final class OrderTest {
     }
 
     private static void needs() {
-        ToyVillage v = new ToyVillage();
+        Village v = new Village();
         v.kind(1, 1, 1);
         v.kind(1, 1, 1);
         v.order(5);
@@ -58,7 +58,7 @@ public final class OrderTest {
     }
 
     private static void told() {
-        ToyVillage v = new ToyVillage();
+        Village v = new Village();
         v.kind(1, 1, 1);
         v.order(7);
         v.order(8);

@@ -9,8 +9,8 @@ public final class PaintTest {
         c.end();
     }
 
-    private static ToyVillage village(int figures) {
-        ToyVillage v = new ToyVillage();
+    private static Village village(int figures) {
+        Village v = new Village();
         v.kind(1, 1, 1);
         v.kind(1, 1, 0);
         v.family(1, false);
@@ -21,7 +21,7 @@ public final class PaintTest {
     }
 
     private static void lots() {
-        ToyVillage v = new ToyVillage();
+        Village v = new Village();
         for (int colour : new int[] {-1, 5, Integer.MIN_VALUE, Integer.MAX_VALUE}) {
             c.due("lot(" + colour + ")", v.lot(colour), -1);
         }
@@ -34,7 +34,7 @@ public final class PaintTest {
     }
 
     private static void painting() {
-        ToyVillage v = village(6);
+        Village v = village(6);
         v.lot(4);
         v.lot(0);
         v.lot(4);
@@ -64,7 +64,7 @@ public final class PaintTest {
     }
 
     private static void paintAndBoxes() {
-        ToyVillage v = village(4);
+        Village v = village(4);
         v.lot(2);
         v.lot(3);
         v.paint(0, 0, 0);

@@ -14,7 +14,7 @@ public final class PatternTest {
     }
 
     private static void kinds() {
-        ToyVillage v = new ToyVillage();
+        Village v = new Village();
         int[][] wrong = {{0, 1, 1}, {10, 1, 1}, {-1, 1, 1}, {1, 0, 1}, {1, 13, 1}, {1, -1, 1},
             {1, 1, -1}, {1, 1, 101}, {Integer.MIN_VALUE, 1, 1}, {1, Integer.MAX_VALUE, 1}};
         for (int[] w : wrong) {
@@ -31,7 +31,7 @@ public final class PatternTest {
     }
 
     private static void families() {
-        ToyVillage v = new ToyVillage();
+        Village v = new Village();
         for (int hands : new int[] {0, 10, -1, Integer.MIN_VALUE, Integer.MAX_VALUE}) {
             c.due("family(" + hands + ")", v.family(hands, false), -1);
         }
@@ -45,8 +45,8 @@ public final class PatternTest {
         c.due("count(1)", v.count(1), 8);
     }
 
-    private static ToyVillage village(int families, int kinds) {
-        ToyVillage v = new ToyVillage();
+    private static Village village(int families, int kinds) {
+        Village v = new Village();
         for (int f = 0; f < families; f++) {
             v.family(1, false);
         }
@@ -57,7 +57,7 @@ public final class PatternTest {
     }
 
     private static void owning() {
-        ToyVillage v = village(2, 3);
+        Village v = village(2, 3);
         c.due("own(1, 2)", v.own(1, 2), true);
         c.due("own(1, 2) again", v.own(1, 2), false);
         c.due("own(0, 2)", v.own(0, 2), true);
@@ -80,7 +80,7 @@ public final class PatternTest {
     }
 
     private static void lending() {
-        ToyVillage v = village(3, 2);
+        Village v = village(3, 2);
         v.own(0, 1);
         c.due("it does not own it", v.lend(0, 1, 0, 5), false);
         c.due("one and the same", v.lend(0, 0, 1, 5), false);
@@ -110,7 +110,7 @@ public final class PatternTest {
     }
 
     private static void lendingLater() {
-        ToyVillage v = village(2, 1);
+        Village v = village(2, 1);
         v.own(0, 0);
         v.season();
         v.season();
@@ -131,7 +131,7 @@ public final class PatternTest {
     }
 
     private static void hundredLendings() {
-        ToyVillage v = village(3, 1);
+        Village v = village(3, 1);
         v.own(0, 0);
         for (int i = 0; i < 100; i++) {
             c.due("lend " + i, v.lend(0, 1, 0, 2), true);
@@ -142,7 +142,7 @@ public final class PatternTest {
     }
 
     private static void seasons() {
-        ToyVillage v = village(2, 1);
+        Village v = village(2, 1);
         v.own(0, 0);
         for (int s = 1; s <= 39; s++) {
             c.due("season()", v.season(), s);

@@ -8,7 +8,7 @@ public final class TapeTest {
     }
 
     private static void limits(Check c) {
-        ToyVillage v = new ToyVillage();
+        Village v = new Village();
         for (int i = 1; i <= 100; i++) {
             c.due("feed " + i, v.feed(0, 0, 0, 0, 0), 20 * i);
         }
@@ -31,7 +31,7 @@ public final class TapeTest {
     }
 
     private static void bytesInOrder(Check c) {
-        ToyVillage v = new ToyVillage();
+        Village v = new Village();
         // Each byte of the five ints in turn is the first that is no blank.
         for (int i = 0; i < 20; i++) {
             int[] words = {0x20202020, 0x20202020, 0x20202020, 0x20202020, 0x20202020};

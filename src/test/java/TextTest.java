@@ -15,7 +15,7 @@ public final class TextTest {
     }
 
     private static void reads(String text, int fault, int place) {
-        ToyVillage v = new ToyVillage();
+        Village v = new Village();
         c.due("place() ahead of any read()", v.place(), -1);
         c.due("read() of [" + text + "]", Check.read(v, text), fault);
         c.due("place() of [" + text + "]", v.place(), place);
@@ -188,7 +188,7 @@ public final class TextTest {
     private static void manyRules() {
         String twenty = "pay 1;".repeat(20);
         good(twenty);
-        ToyVillage v = new ToyVillage();
+        Village v = new Village();
         Check.read(v, twenty);
         c.due("count(9)", v.count(9), 20);
         room(twenty + " give 1;", 121);
@@ -218,7 +218,7 @@ public final class TextTest {
     }
 
     private static void faultsChangeNothing() {
-        ToyVillage v = new ToyVillage();
+        Village v = new Village();
         c.due("read()", Check.read(v, "give 1; pay 2; bar 1 == 2;"), 0);
         c.due("count(9)", v.count(9), 3);
         c.due("read()", Check.read(v, "give 1; pay 2; give"), 1);
@@ -241,7 +241,7 @@ public final class TextTest {
     }
 
     /** Boxes one new figure and looks at what it brought. */
-    private static void payIs(ToyVillage v, int want) {
+    private static void payIs(Village v, int want) {
         v.kind(1, 1, 1);
         v.family(1, false);
         v.own(0, 0);
