@@ -395,7 +395,8 @@ public final class ToyVillage {
     private int storeCutLog(int length) {
         int log = rings.addLog();
         int unit = 0;
-        while (unit < length) {
+        // Each step takes a unit at least, so there are no more steps than units.
+        for (int step = 0; step < length && unit < length; step++) {
             int kind = cutter.choiceAt(unit);
             if (kind == NONE) {
                 rings.wasted[log]++;

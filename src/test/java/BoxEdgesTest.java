@@ -8,6 +8,7 @@ public final class BoxEdgesTest {
         nothingToBox();
         withoutNeeds();
         eachWhole();
+        ofAKind();
         paintedSo();
         ofAny();
         inNoBox();
@@ -119,6 +120,62 @@ public final class BoxEdgesTest {
         w.give();
         c.due("box() with enough of each kind", w.box(), 7);
         c.due("count(6)", w.count(6), 9);
+    }
+
+    private static void ofAKind() {
+        c.sentence("Terms III: so many FIGURES .. of a KIND, of a COLOUR (each kind and each colour is one of its own)");
+        // A figure of each of 8 kinds and of 5 colours or not painted, but for those of one sort.
+        for (int kind = 0; kind < 8; kind++) {
+            for (int colour = 0; colour < 5; colour++) {
+                Village v = ofEachSort();
+                v.paint(colour == 4 ? 0 : colour + 1, 6 * kind + colour, 6 * kind + colour);
+                paintEachSort(v);
+                v.order(5);
+                v.need(0, 1, kind, colour);
+                c.due("box() without kind " + kind + ", colour " + colour, v.box(), 0);
+                v.order(3);
+                v.need(1, 6, kind, -1);
+                c.due("box() of all of kind " + kind, v.box(), 3);
+                packed(v, 1, 6 * kind, 6 * kind + 1, 6 * kind + 2, 6 * kind + 3, 6 * kind + 4, 6 * kind + 5);
+                v.order(2);
+                v.need(2, 1, kind, -1);
+                c.due("box() with none left of kind " + kind, v.box(), 0);
+            }
+            Village v = ofEachSort();
+            paintEachSort(v);
+            for (int colour = 0; colour < 4; colour++) {
+                v.need(v.order(1), 1, kind, colour);
+            }
+            c.due("box() of four colours of kind " + kind, v.box(), 4);
+            for (int colour = 0; colour < 4; colour++) {
+                packed(v, colour, 6 * kind + colour);
+            }
+        }
+    }
+
+    /** Figures 6 k to 6 k + 5 are of kind k. */
+    private static Village ofEachSort() {
+        Village v = new Village();
+        v.family(1, false);
+        for (int k = 0; k < 8; k++) {
+            v.kind(1, 6, 1 + k);
+            v.own(0, k);
+            v.log(1, 0);
+        }
+        v.give();
+        for (int colour = 0; colour < 5; colour++) {
+            v.lot(colour);
+        }
+        return v;
+    }
+
+    /** Figure 6 k + c gets colour c, 6 k + 5 none. */
+    private static void paintEachSort(Village v) {
+        for (int k = 0; k < 8; k++) {
+            for (int colour = 0; colour < 5; colour++) {
+                v.paint(colour, 6 * k + colour, 6 * k + colour);
+            }
+        }
     }
 
     private static void paintedSo() {

@@ -178,36 +178,38 @@ public final class GiveEdgesTest {
 
     private static void noRoomNow() {
         c.sentence("Terms II: no room for its FIGURES: it waits on. (those behind it that have room do not)");
-        Village w = new Village();
-        w.kind(1, 12, 1);
-        w.kind(1, 5, 1);
-        w.kind(1, 4, 1);
-        w.kind(1, 3, 1);
-        w.kind(1, 1, 1);
-        w.family(1, false);
-        for (int k = 4; k > 0; k--) {
-            w.own(0, k);
-            w.log(1, 0);
+        // Rings of 5, 3, 4 and 1 slices, then 33 of 12, which come first by a text.
+        Village v = new Village();
+        v.family(1, false);
+        v.kind(1, 5, 1);
+        v.kind(1, 3, 2);
+        v.kind(1, 4, 2);
+        v.kind(1, 1, 9);
+        v.kind(1, 12, 1);
+        for (int k = 0; k < 4; k++) {
+            v.own(0, k);
+            v.log(1, 0);
         }
-        w.own(0, 0);
-        w.log(33, 0);
-        // Rings 0 to 3 are of 1, 3, 4, 5; the 33 behind them of 12 come first, by a text.
-        Check.read(w, "bar kind != 0;");
-        c.due("give() of 33 rings of 12", w.give(), 33);
-        c.due("count(5)", w.count(5), 396);
-        Check.read(w, "bar kind == 4 and season == 0;");
-        c.due("give() of 3, for there is no room for 4 and 5 then", w.give(), 1);
-        c.due("ring(1, 4)", w.ring(1, 4), 396);
-        c.due("ring(2, 3)", w.ring(2, 3), -1);
-        c.due("ring(3, 3)", w.ring(3, 3), -1);
-        w.season();
-        c.due("give() of 1", w.give(), 1);
-        c.due("ring(0, 4)", w.ring(0, 4), 399);
-        c.due("count(5)", w.count(5), 400);
-        c.due("give() with no room", w.give(), 0);
-        c.due("count(4)", w.count(4), 2);
-        c.due("load(0, 0)", w.load(0, 0), 399);
-        c.due("load(0, 1)", w.load(0, 1), 1);
+        v.own(0, 4);
+        v.log(33, 0);
+        Check.read(v, "bar kind != 4;");
+        c.due("give() of 33 rings of 12", v.give(), 33);
+        c.due("count(5)", v.count(5), 396);
+        v.read();
+        v.season();
+        c.due("give() of 3 and 1, not of 5 and 4", v.give(), 2);
+        int[] firsts = {-1, 396, -1, 399};
+        int[] takers = {-1, 0, -1, 0};
+        for (int r = 0; r < 4; r++) {
+            c.due("ring(" + r + ", 2)", v.ring(r, 2), r);
+            c.due("ring(" + r + ", 3)", v.ring(r, 3), takers[r]);
+            c.due("ring(" + r + ", 4)", v.ring(r, 4), firsts[r]);
+        }
+        c.due("count(5)", v.count(5), 400);
+        c.due("count(4)", v.count(4), 2);
+        c.due("load(0, 0)", v.load(0, 0), 396);
+        c.due("load(0, 1)", v.load(0, 1), 4);
+        c.due("give() with no room", v.give(), 0);
     }
 
     private static void slicesAreFigures() {

@@ -212,9 +212,17 @@ public final class PatternEdgesTest {
         return v;
     }
 
+    /** With room for just one lending more, so that one that is refused shows if it takes that. */
+    private static void lentUpToOne(Village v) {
+        Scenes.busy(v);
+        for (int i = 0; i < 98; i++) {
+            v.lend(0, 2, 0, 3);
+        }
+    }
+
     private static void refusedLend(String why, int from, int to, int kind, int until) {
         c.due(why, lender().lend(from, to, kind, until), false);
-        busy().by(why, v -> v.lend(from, to, kind, until) ? 1 : 0, 0);
+        new Untouched(c, PatternEdgesTest::lentUpToOne).by(why, v -> v.lend(from, to, kind, until) ? 1 : 0, 0);
     }
 
     private static void lendNoSuch() {
@@ -268,7 +276,8 @@ public final class PatternEdgesTest {
             }
         }
         for (int until : new int[] {MIN, -1, 0, 1, 41, 42, MAX}) {
-            busy().by("lend until " + until + " in 1", v -> v.lend(0, 1, 0, until) ? 1 : 0, 0);
+            new Untouched(c, PatternEdgesTest::lentUpToOne)
+                    .by("lend until " + until + " in 1", v -> v.lend(0, 1, 0, until) ? 1 : 0, 0);
         }
     }
 
@@ -309,8 +318,10 @@ public final class PatternEdgesTest {
     private static void lendHundred() {
         c.sentence("Promise 9: or 100 are lent.");
         Village v = lender();
+        int[][] wrong = {{0, 0, 0, 5}, {1, 2, 0, 5}, {0, 1, 1, 5}, {0, 1, 0, 0}, {0, 1, 0, 41}, {0, 3, 0, 5}, {3, 0, 0, 5}, {0, 1, 2, 5}};
         for (int i = 0; i < 100; i++) {
-            c.due("a wrong one ahead of lend " + i, v.lend(0, 0, 0, 5), false);
+            int[] w = wrong[i % wrong.length];
+            c.due("a wrong one ahead of lend " + i, v.lend(w[0], w[1], w[2], w[3]), false);
             c.due("lend " + i, v.lend(0, 1, 0, i < 99 ? 2 : 7), true);
         }
         c.due("may(1, 0, 6) by the 100th", v.may(1, 0, 6), 1);
@@ -320,10 +331,8 @@ public final class PatternEdgesTest {
         c.due("may(1, 0, 7)", v.may(1, 0, 7), 0);
         c.due("own(2, 0) all the same", v.own(2, 0), true);
         new Untouched(c, x -> {
-            Scenes.busy(x);
-            for (int i = 0; i < 99; i++) {
-                x.lend(0, 2, 0, 3);
-            }
+            lentUpToOne(x);
+            x.lend(0, 2, 0, 3);
         }).by("a 101st", x -> x.lend(0, 1, 0, 9) ? 1 : 0, 0);
         full().by("a 101st", x -> x.lend(7, 0, 7, 40) ? 1 : 0, 0);
     }

@@ -6,6 +6,7 @@ public final class TextEdgesTest {
         blanks();
         longestThatCanBe();
         words();
+        wordsOfRules();
         ints();
         signs();
         noToken();
@@ -17,6 +18,7 @@ public final class TextEdgesTest {
         firstByPlace();
         leastOfOnePlace();
         faultChangesNothing();
+        eachTextAnew();
         inPlaceOfTheOneAhead();
         c.end();
     }
@@ -108,8 +110,27 @@ public final class TextEdgesTest {
             syntax("pay " + word.toUpperCase() + ";", 4);
             syntax("pay " + word.substring(1) + ";", 4);
             syntax("pay " + word + "a;", 4);
+            for (int i = 0; i < word.length(); i++) {
+                syntax("pay " + word.substring(0, i) + "q" + word.substring(i + 1) + ";", 4);
+            }
             syntax(word + ";", 0);
             syntax("pay 1 " + word + ";", 6);
+        }
+    }
+
+    private static void wordsOfRules() {
+        c.sentence("Terms II: RULE: 'give' .. 'bar' .. 'pay' .. 'if' .. 'or' .. 'and'");
+        String[] aheads = {"", "", "", "pay 1 ", "bar 1==1 ", "bar 1==1 "};
+        String[] words = {"give", "bar", "pay", "if", "or", "and"};
+        String[] behinds = {" 1;", " 1==1;", " 1;", " 1==1;", " 1==1;", " 1==1;"};
+        for (int w = 0; w < words.length; w++) {
+            String word = words[w];
+            good(aheads[w] + word + behinds[w]);
+            syntax(aheads[w] + word.substring(1) + behinds[w], aheads[w].length());
+            syntax(aheads[w] + word + "q" + behinds[w], aheads[w].length());
+            for (int i = 0; i < word.length(); i++) {
+                syntax(aheads[w] + word.substring(0, i) + "q" + word.substring(i + 1) + behinds[w], aheads[w].length());
+            }
         }
     }
 
@@ -373,6 +394,34 @@ public final class TextEdgesTest {
         v.need(0, 1, 0, -1);
         v.box();
         c.due("money(1)", v.money(1), 70);
+    }
+
+    private static void eachTextAnew() {
+        c.sentence("Terms II: 2 ROOM (what texts ahead had does not count)");
+        String most = ruleOf(201) + ruleOf(199);
+        Village v = new Village();
+        for (int i = 0; i < 4; i++) {
+            c.due("read() of 400 tokens", Check.read(v, most), 0);
+            c.due("count(9)", v.count(9), 2);
+            c.due("read() of open brackets", Check.read(v, "pay ((((((1"), 1);
+            c.due("read() of six brackets", Check.read(v, "pay ((((((1))))));"), 0);
+        }
+        v = new Village();
+        for (int i = 0; i < 4; i++) {
+            c.due("read() of a fault behind 400 tokens", Check.read(v, most + "@"), 1);
+            c.due("place()", v.place(), most.length());
+            c.due("read() of half a rule", Check.read(v, "pay 1 if 1=="), 1);
+            c.due("place()", v.place(), 12);
+        }
+        c.due("read() of 400 tokens", Check.read(v, most), 0);
+        v = new Village();
+        String twenty = "pay 1;".repeat(19) + "bar 1==2;";
+        for (int i = 0; i < 4; i++) {
+            c.due("read() of 20 rules", Check.read(v, twenty), 0);
+            c.due("count(9)", v.count(9), 20);
+            c.due("read() of 21 rules", Check.read(v, twenty + "pay 1;"), 2);
+            c.due("place()", v.place(), 123);
+        }
     }
 
     private static void inPlaceOfTheOneAhead() {
