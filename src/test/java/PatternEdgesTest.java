@@ -335,6 +335,19 @@ public final class PatternEdgesTest {
             x.lend(0, 2, 0, 3);
         }).by("a 101st", x -> x.lend(0, 1, 0, 9) ? 1 : 0, 0);
         full().by("a 101st", x -> x.lend(7, 0, 7, 40) ? 1 : 0, 0);
+        lendingsThatRanOut();
+    }
+
+    // A reading: what ran out counts among the 100, for may() still tells of its seasons.
+    private static void lendingsThatRanOut() {
+        Village v = lender();
+        for (int i = 0; i < 100; i++) {
+            v.lend(0, 1, 0, 1);
+        }
+        v.season();
+        c.due("a 101st when 100 have run out", v.lend(0, 1, 0, 5), false);
+        c.due("may(1, 0, 0) of what has run out", v.may(1, 0, 0), 1);
+        c.due("may(1, 0, 1)", v.may(1, 0, 1), 0);
     }
 
     private static void mayEdges() {
